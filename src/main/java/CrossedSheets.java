@@ -443,10 +443,13 @@ public final class CrossedSheets {
         }
 
         void clear(int row) {
-            if (row >= 0 && row < rows) {
-                Arrays.fill(parts, row * PARTS, row * PARTS + PARTS, 0L);
-                sizes[row] = 0;
+            if (row < 0 || row >= rows) {
+                return;
             }
+            for (int k = 0; k < PARTS; k++) {
+                parts[row * PARTS + k] = 0;
+            }
+            sizes[row] = 0;
         }
 
         int sizeOf(int row) {
@@ -594,12 +597,13 @@ public final class CrossedSheets {
             if (m < 0 || m >= MARKS) {
                 return at + 1;
             }
-            boolean made = isIn(set, m);
+            boolean made = (set >> m & 1) != 0;
+            boolean letStand = stander[m] >= 0 && (set >> stander[m] & 1) != 0;
             switch (signs[at]) {
                 case '{':
                     return made ? at + 1 : link[at] + 1;
                 case '[':
-                    return made && !isIn(set, stander[m]) ? link[at] + 1 : at + 1;
+                    return made && !letStand ? link[at] + 1 : at + 1;
                 case '<':
                     return made ? link[at] + 1 : at + 1;
                 case '*':
@@ -1280,7 +1284,9 @@ public final class CrossedSheets {
             if (full == 0) {
                 return 0;
             }
-            Arrays.fill(room, INKS * full, INKS * full + INKS, withBreaks ? breaksBehind(full) : 0);
+            for (int i = 0; i < INKS; i++) {
+                room[INKS * full + i] = withBreaks ? breaksBehind(full) : 0;
+            }
             for (int k = must.goodCount() - 2; k > 0; k--) {
                 int set = must.goodAt(k);
                 long change = SESSION + cheapest(set) + (withBreaks ? breaksBehind(set) : 0);
@@ -1368,7 +1374,7 @@ public final class CrossedSheets {
 
         private void findAll() {
             found = 0;
-            Arrays.fill(room, 0, SLOTS, NONE);
+            Arrays.fill(room, NONE);
             for (int k = 0; k < must.goodCount(); k++) {
                 int set = must.goodAt(k);
                 int slot = slotFor(set);
@@ -1514,7 +1520,7 @@ public final class CrossedSheets {
         }
 
         private void countUpTo(int last) {
-            Arrays.fill(room, 0, SETS, 1L);
+            allowAll(0);
             keepTimes(0, 0);
             for (int c = 1; c <= last && c < MOST_COPIES; c++) {
                 for (int m = 0; m < must.told.marks; m++) {
@@ -1525,7 +1531,7 @@ public final class CrossedSheets {
         }
 
         private void countFrom(int c) {
-            Arrays.fill(room, SETS, 2 * SETS, 1L);
+            allowAll(SETS);
             keepTimes(number - 1, SETS);
             for (int d = number - 2; d >= c && d >= 0; d--) {
                 for (int m = 0; m < must.told.marks; m++) {
@@ -1535,11 +1541,16 @@ public final class CrossedSheets {
             }
         }
 
+        private void allowAll(int offset) {
+            for (int set = 0; set < SETS; set++) {
+                room[offset + set] = 1;
+            }
+        }
+
         private void keepTimes(int c, int offset) {
             for (int set = 0; set <= must.full() && set < SETS; set++) {
-                if (room[offset + set] != 0 && !(must.isGood(set) && isTime(c, set))) {
-                    room[offset + set] = 0;
-                }
+                boolean isTime = must.isGood(set) && taken.isAlike(c, texts.with(set), set);
+                room[offset + set] = isTime ? room[offset + set] : 0;
             }
         }
 

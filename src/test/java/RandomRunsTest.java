@@ -71,11 +71,11 @@ final class RandomRunsTest {
     }
 
     private void run() {
-        tell(mostMarks, false, 12);
+        tell(mostMarks, false, 3);
         while (calls < MOST_CALLS - 60) {
             int way = random.nextInt(40);
             if (way == 0) {
-                tell(random.nextInt(mostMarks + 1), random.nextInt(3) == 0, 12);
+                tell(random.nextInt(mostMarks + 1), random.nextInt(3) == 0, 6);
             } else if (way < 6) {
                 copyOne();
             } else {

@@ -12,13 +12,14 @@ final class RandomSheets {
     private final List<Integer> moved = new ArrayList<>();
     private final List<String> tokens = new ArrayList<>();
     private final List<Integer> gaps = new ArrayList<>();
-    private int words;
     private int wordRange;
+    private boolean deep;
 
     RandomSheets(Random random) {
         this.random = random;
     }
 
+    /** With that many marks, and up to so many words behind the last of them. */
     String make(int number, int mostWords) {
         marks.clear();
         moved.clear();
@@ -28,12 +29,12 @@ final class RandomSheets {
             marks.add(m);
         }
         Collections.shuffle(marks, random);
-        words = mostWords;
+        deep = random.nextInt(4) == 0;
         wordRange = random.nextInt(4) == 0 ? 100 : 2 + random.nextInt(8);
         while (!marks.isEmpty()) {
             items(1 + random.nextInt(3), 0, false);
         }
-        items(random.nextInt(3), 0, false);
+        items(random.nextInt(mostWords + 1), 0, false);
         gaps.add(tokens.size());
         for (int m : moved) {
             putStar(m);
@@ -72,8 +73,8 @@ final class RandomSheets {
     }
 
     private void item(int depth, boolean inArrow) {
-        int way = random.nextInt(8);
-        if (marks.isEmpty() || way < 2 || depth > 7 && way < 7) {
+        int way = deep && depth < 9 ? 2 + random.nextInt(5) : random.nextInt(8);
+        if (marks.isEmpty() || way < 2 || depth > 8 && way < 7) {
             word();
         } else if (way == 7) {
             tokens.add("(");
@@ -109,7 +110,6 @@ final class RandomSheets {
     }
 
     private void word() {
-        words--;
         int w = random.nextInt(wordRange);
         tokens.add((w < 10 && random.nextInt(9) == 0 ? "0" : "") + w);
     }
