@@ -371,10 +371,7 @@ public final class CrossedSheets {
 
     private int wordOrSize(int set, int i) {
         Shelf shelf = texts.with(set);
-        if (i == NONE) {
-            return shelf.sizeOf(set);
-        }
-        return i < 0 || i >= shelf.sizeOf(set) ? NONE : shelf.wordAt(set, i);
+        return i == NONE ? shelf.sizeOf(set) : shelf.wordAt(set, i);
     }
 
     private int fewestMarks(int w) {

@@ -196,6 +196,21 @@ final class CopyTest {
         copyOf(y, 1, 2);
         CHECK.due("behind a copy without 2", y.when(1, 0), 13);
         CHECK.due("ahead of it", y.when(0, 0), 5);
+        CrossedSheets u = Check.on("<0:1>*0 2{1:3}");
+        copyOf(u, 1, 2);
+        CHECK.due("a mark that changes nothing", u.times(0, NONE), 2);
+        CHECK.due("the first time", u.times(0, 0), 0);
+        CHECK.due("one mark more", u.when(0, 1), 1);
+        copyOf(u, 1, 2, 3);
+        CHECK.due("ahead of a mark more", u.when(0, 0), 0);
+        CHECK.due("the fewest marks of the second", u.when(1, 0), 2);
+        CHECK.due("the most marks of the second", u.when(1, 1), 3);
+        CrossedSheets v = Check.on("1{0:2}");
+        copyOf(v, 1);
+        copyOf(v, 1, 2);
+        CHECK.due("mark 0 comes between", v.when(0, 0), 0);
+        CHECK.due("mark 0 comes between", v.when(0, 1), 0);
+        CHECK.due("mark 0 has come", v.when(1, 0), 1);
         CrossedSheets z = Check.on("[0!1:1]{2:1}");
         copyOf(z, 1);
         copyOf(z, 1, 1);
@@ -228,6 +243,9 @@ final class CopyTest {
     }
 
     private static void nearest() {
+        CrossedSheets y = Check.on("(1/0 9)2 3");
+        copyOf(y, 9);
+        CHECK.due("nearest ahead of any other call", y.nearest(0, 1), 1);
         CrossedSheets x = Check.on("1{0:2}{1:3}(4/2 5)");
         copyOf(x);
         near(x, 0, 2, 0);

@@ -326,6 +326,8 @@ final class SheetTest {
         marks(Check.on("{0:1{1:2{2:*3}}}<3:4>"), 2, "0 1 3 7");
         marks(Check.on("{0:<1:1>}{2:*1}"), 2, "0 5 0");
         marks(Check.on("(1/2 2/0 3/1 4)"), 2, "4 5 0");
+        marks(Check.on("(1/2 2/1 3/0 4)"), 2, "6 4 0");
+        marks(Check.on("(1/2 2/1 3/0 4)"), 3, "0 1 3");
         CrossedSheets x = Check.on("{0:1}{1:2}{2:[3:3]}");
         x.ink(0, 1);
         x.ink(1, 2);
@@ -341,6 +343,7 @@ final class SheetTest {
 
     private static void markInside() {
         marks(Check.on("{0:1[1!2:2(3/3 4/4 5)]6}<5:7{6:8 9}>*5"), 4, "6 4 4 1 1 3 2");
+        marks(Check.on("[1!0:6 7]"), 4, "2 2");
         marks(Check.on("{0:*1}<1:5>[2:6 7][3!4:8]"), 4, "0 1 2 1 1");
     }
 
@@ -421,6 +424,11 @@ final class SheetTest {
         for (int what = 0; what < want.length; what++) {
             CHECK.due("count(" + what + ")", x.count(what), want[what]);
         }
+        CrossedSheets y = Check.on("{0:1}{1:2}");
+        y.ink(0, 1);
+        CHECK.due("count(6)", y.count(6), 2);
+        y.ink(1, 1);
+        CHECK.due("count(6)", y.count(6), 1);
         CHECK.due("count(8)", x.count(8), OUTSIDE);
         CHECK.due("count(-1)", x.count(-1), OUTSIDE);
         CHECK.due("count(min)", x.count(Integer.MIN_VALUE), OUTSIDE);

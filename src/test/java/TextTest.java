@@ -32,6 +32,7 @@ final class TextTest {
         texts("1{0:2{1:3}}4", "0", "1 4", "1", "1 2 4", "3", "1 2 3 4");
         texts("1[0:2[1:3]]4", "0", "1 2 3 4", "1", "1 4", "2", "1 2 4", "3", "1 4");
         texts("1[0!1:2[2:3]]4", "0", "1 2 3 4", "1", "1 4", "3", "1 2 3 4", "7", "1 2 4", "5", "1 4");
+        texts("1[1!0:2]", "0", "1 2", "2", "1", "3", "1 2");
         texts("1(2/0 3/1 4)5", "0", "1 2 5", "1", "1 3 5", "3", "1 4 5");
         texts("[0:(1/1 2)]{2:(3/3 4)}", "0", "1", "1", "", "2", "2", "4", "1 3", "12", "1 4", "15", "4");
     }
@@ -116,6 +117,7 @@ final class TextTest {
         CHECK.due("word(-1, 0)", x.word(-1, 0), OUTSIDE);
         CHECK.due("word(1, 5)", x.word(1, 5), OUTSIDE);
         CHECK.due("word(1, -1)", x.word(1, -1), OUTSIDE);
+        words(Check.on("(0/0 1/1 2/2 3/3 4/4 5/5 6/6 7/7 8/8 9/9 10)"), 10, 0, 1, 10, 10, 1);
         words(Check.on("0 99"), 99, 1, 1, 0, 0, 1);
         words(Check.on("0 99"), 0, 1, 1, 0, 0, 1);
         words(Check.on(""), 0, 0, 0, NONE, NONE, 0);
@@ -157,6 +159,9 @@ final class TextTest {
         CHECK.due("apart(0, 2)", x.apart(0, 2), NOT);
         CHECK.due("unknown ahead of not", x.apart(2, 16), UNKNOWN);
         CHECK.due("unknown ahead of not", x.apart(16, 2), UNKNOWN);
+        CrossedSheets z = Check.on("{0:3}1 2 3");
+        CHECK.due("up and down again", z.apart(0, 1), 1);
+        CHECK.due("up and down again", z.apart(1, 0), 1);
         CrossedSheets y = Check.on("[0:1 2 3]");
         CHECK.due("from nothing", y.apart(1, 0), 3);
         CHECK.due("to nothing", y.apart(0, 1), 3);
