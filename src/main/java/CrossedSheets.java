@@ -454,7 +454,7 @@ public final class CrossedSheets {
         }
 
         void put(int row, int word) {
-            if (isMade(row) && sizes[row] < LONGEST) {
+            if (row >= 0 && row < rows && sizes[row] >= 0 && sizes[row] < LONGEST) {
                 int i = sizes[row];
                 parts[row * PARTS + (i >> 3)] |= (long) word << (8 * (i & 7));
                 sizes[row] = i + 1;
