@@ -84,6 +84,14 @@ final class Check {
         return s.toString();
     }
 
+    static String marks(CrossedSheets x, int what) {
+        StringBuilder s = new StringBuilder();
+        for (int m = 0; m < x.count(0); m++) {
+            s.append(m == 0 ? "" : " ").append(x.mark(m, what));
+        }
+        return s.toString();
+    }
+
     static String session(CrossedSheets x) {
         StringBuilder s = new StringBuilder();
         for (int j = 0; j < x.count(0); j++) {

@@ -12,9 +12,11 @@ final class EdgesOfBarsTest {
     public static void main(String[] args) {
         DOC.says("Promise 31", "A pair is BARRED (is = true), or not: what it was (1, 0)", EdgesOfBarsTest::whatItWas);
         DOC.says("Promise 31", "OUTSIDE", EdgesOfBarsTest::barOutside);
-        DOC.says("Terms 3", "that may not stand side by side, in this order (20 at most)", EdgesOfBarsTest::inThisOrder);
+        DOC.says("Terms 3", "that may not stand side by side, in this order (20 at most)",
+            EdgesOfBarsTest::inThisOrder);
         DOC.says("Promise 31", "FULL (20, and it would be one more)", EdgesOfBarsTest::twentyPairs);
-        DOC.says("Terms 3", "BREAKS of a TEXT: at how many places two such stand", EdgesOfBarsTest::fewestAndMostBreaks);
+        DOC.says("Terms 3", "BREAKS of a TEXT: at how many places two such stand",
+            EdgesOfBarsTest::fewestAndMostBreaks);
         DOC.says("Promise 32", "UNKNOWN (bits), NOT: it is not GOOD", EdgesOfBarsTest::breaksRefused);
         DOC.says("Terms 3", "no BREAKS in any TEXT of its first MARKS, none to all", EdgesOfBarsTest::noneToAll);
         DOC.says("Promise 33", "How many CLEAN ORDERS (without MARKS 1, if the TEXT has no BREAKS, else 0)",

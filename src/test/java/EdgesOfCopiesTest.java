@@ -14,19 +14,24 @@ final class EdgesOfCopiesTest {
 
     public static void main(String[] args) {
         DOC.says("Promise 23", "A WORD comes behind THE DRAFT: how many it has", EdgesOfCopiesTest::wordsComeBehind);
-        DOC.says("Promise 23", "OUTSIDE", EdgesOfCopiesTest::writeOutside);
+        DOC.says("Promise 23", "OUTSIDE, FULL", EdgesOfCopiesTest::writeOutside);
         DOC.says("Terms 3", "THE DRAFT is a row of WORDS (40 at most)", EdgesOfCopiesTest::fortyWords);
-        DOC.says("Promise 24", "THE DRAFT becomes the TEXT of a GOOD SET: how many WORDS", EdgesOfCopiesTest::emptyAndFullDraft);
+        DOC.says("Promise 24", "THE DRAFT becomes the TEXT of a GOOD SET: how many WORDS",
+            EdgesOfCopiesTest::emptyAndFullDraft);
         DOC.says("Promise 24", "UNKNOWN (bits), NOT: it is not GOOD", EdgesOfCopiesTest::seeRefused);
-        DOC.says("Promise 25", "THE DRAFT (it is empty then) is a COPY: its number", EdgesOfCopiesTest::draftIsEmptyThen);
+        DOC.says("Promise 25", "THE DRAFT (it is empty then) is a COPY: its number",
+            EdgesOfCopiesTest::draftIsEmptyThen);
         DOC.says("Terms 3", "A COPY (4 at most)", EdgesOfCopiesTest::fourCopies);
         DOC.says("Promise 25", "FULL (THE DRAFT stays)", EdgesOfCopiesTest::draftStays);
-        DOC.says("Promise 26", "The last COPY is gone: how many WORDS it had; NONE: there is none", EdgesOfCopiesTest::dropAll);
+        DOC.says("Promise 26", "The last COPY is gone: how many WORDS it had; NONE: there is none",
+            EdgesOfCopiesTest::dropAll);
         DOC.says("Terms 3", "GOOD SETS with just that TEXT, the lesser ahead", EdgesOfCopiesTest::justThatText);
-        DOC.says("Promise 27", "TIMES of a COPY: i = NONE how many, else the i-th SET", EdgesOfCopiesTest::fewestAndMostTimes);
+        DOC.says("Promise 27", "TIMES of a COPY: i = NONE how many, else the i-th SET",
+            EdgesOfCopiesTest::fewestAndMostTimes);
         DOC.says("Promise 27", "NONE (i below NONE, too)", EdgesOfCopiesTest::timesNotSoMany);
         DOC.says("Promise 27", "UNKNOWN", EdgesOfCopiesTest::timesUnknown);
-        DOC.says("Terms 3", "COPY by COPY, each within (or the same as) that of the next one", EdgesOfCopiesTest::eachWithinTheNext);
+        DOC.says("Terms 3", "COPY by COPY, each within (or the same as) that of the next one",
+            EdgesOfCopiesTest::eachWithinTheNext);
         DOC.says("Promise 28", "by which they HOLD (1 without COPIES)", EdgesOfCopiesTest::fewestAndMostRows);
         DOC.says("Terms 3", "that with the fewest MARKS (of like ones the least SET)", EdgesOfCopiesTest::earliest);
         DOC.says("Terms 3", "LATEST: with the most (of like ones the least SET)", EdgesOfCopiesTest::latest);
@@ -344,6 +349,8 @@ final class EdgesOfCopiesTest {
         DOC.due("the most marks, though 4 is more", x.when(0, 1), 3);
         DOC.due("of like ones the least", with("{0:1}{1:1}{2:1}", words(1, 1)).when(0, 1), 3);
         DOC.due("all marks", withCopies(IDLE, 1).when(0, 1), 1023);
+        DOC.due("one more than none", withCopies("<0:1>*0", 1).when(0, 1), 1);
+        DOC.due("one more than one", with("<0:1>*0{1:2}", words(1, 2)).when(0, 1), 3);
         DOC.due("no mark at all", with(ROW, words(0)).when(0, 1), 0);
         DOC.due("without marks", withCopies("1", 1).when(0, 1), 0);
     }
@@ -419,6 +426,9 @@ final class EdgesOfCopiesTest {
     }
 
     private static void nearestAndFarthest() {
+        CrossedSheets first = Check.on("(1/0 9)2 3");
+        copyOf(first, 9);
+        near("ahead of any call that has asked for a text", first, 0, 2, 1);
         CrossedSheets none = new CrossedSheets();
         none.copy();
         near("nothing and nothing", none, 0, 0, 0);

@@ -15,7 +15,8 @@ final class EdgesOfMarksTest {
     public static void main(String[] args) {
         DOC.says("Promise 1", "THE SHEET is empty", EdgesOfMarksTest::newSheetIsEmpty);
         DOC.says("Promise 1", "no COPIES, nothing BARRED", EdgesOfMarksTest::newObjectHasNothing);
-        DOC.says("Terms 1", "'{': put in between by MARK M (KIND 0). '[': struck out by M (1)", EdgesOfMarksTest::kinds);
+        DOC.says("Terms 1", "'{': put in between by MARK M (KIND 0). '[': struck out by M (1)",
+            EdgesOfMarksTest::kinds);
         DOC.says("Promise 6", "Of a MARK: what = 0 its KIND", EdgesOfMarksTest::whatOfAMark);
         DOC.says("Promise 6", "2 the SET behind all of which it must be, 3 the SET of those that must be behind it",
             EdgesOfMarksTest::leastAndMostOfMust);
@@ -23,7 +24,8 @@ final class EdgesOfMarksTest {
             EdgesOfMarksTest::wordsWithin);
         DOC.says("Promise 6", "5 how deep it is told (brackets around it)", EdgesOfMarksTest::howDeep);
         DOC.says("Promise 6", "UNKNOWN, OUTSIDE", EdgesOfMarksTest::noSuchMark);
-        DOC.says("Terms 1", "INKS 0 to 3: each MARK is in one (0, when THE SHEET is told)", EdgesOfMarksTest::inkIsNought);
+        DOC.says("Terms 1", "INKS 0 to 3: each MARK is in one (0, when THE SHEET is told)",
+            EdgesOfMarksTest::inkIsNought);
         DOC.says("Promise 7", "A MARK is in an INK: in which it was", EdgesOfMarksTest::inWhichItWas);
         DOC.says("Promise 7", "UNKNOWN (INK, too)", EdgesOfMarksTest::noSuchInk);
         DOC.says("Promise 7", "NOT: some MARK would have to be behind itself", EdgesOfMarksTest::inkNotNow);
@@ -36,10 +38,13 @@ final class EdgesOfMarksTest {
         DOC.says("Terms 2", "if m (its bracket, its '*', its '/' or '!') is told within the '{' of n",
             EdgesOfMarksTest::toldWithin);
         DOC.says("Terms 2", "or lets stand what n struck out", EdgesOfMarksTest::letsStand);
-        DOC.says("Terms 2", "or writes over what n wrote, the one ahead of it in its '('", EdgesOfMarksTest::writesOver);
+        DOC.says("Terms 2", "or writes over what n wrote, the one ahead of it in its '('",
+            EdgesOfMarksTest::writesOver);
         DOC.says("Terms 2", "and so on, step by step", EdgesOfMarksTest::stepByStep);
-        DOC.says("Promise 9", "How many: 0 MARKS, 1 WORDS on THE SHEET, 2 bytes told", EdgesOfMarksTest::leastAndMostCounts);
-        DOC.says("Promise 9", "6 INKS that some MARK is in, 7 SESSIONS at the fewest", EdgesOfMarksTest::inksAndSessions);
+        DOC.says("Promise 9", "How many: 0 MARKS, 1 WORDS on THE SHEET, 2 bytes told",
+            EdgesOfMarksTest::leastAndMostCounts);
+        DOC.says("Promise 9", "6 INKS that some MARK is in, 7 SESSIONS at the fewest",
+            EdgesOfMarksTest::inksAndSessions);
         DOC.says("Promise 9", "OUTSIDE", EdgesOfMarksTest::countOutside);
         DOC.end();
     }
@@ -95,11 +100,7 @@ final class EdgesOfMarksTest {
     }
 
     private static void marks(String call, CrossedSheets x, int what, String want) {
-        StringBuilder s = new StringBuilder();
-        for (int m = 0; m < x.count(0); m++) {
-            s.append(m == 0 ? "" : " ").append(x.mark(m, what));
-        }
-        DOC.due(call + ": mark(all, " + what + ")", s.toString(), want);
+        DOC.due(call + ": mark(all, " + what + ")", Check.marks(x, what), want);
     }
 
     private static void marks(String told, int what, String want) {
@@ -279,6 +280,7 @@ final class EdgesOfMarksTest {
         x.earlier(0, 2, false);
         x.earlier(3, 0, false);
         marks("none any more", x, 2, "0 0 0 0 0");
+        marks("none any more", x, 3, "0 0 0 0 0");
     }
 
     private static void whatItWas() {
@@ -373,6 +375,9 @@ final class EdgesOfMarksTest {
 
     private static void stepByStep() {
         marks("(1/0 2/1 3/2 4)", 2, "0 1 3");
+        marks("(1/1 2/0 3/2 4)", 2, "2 0 3");
+        marks("(1/2 2/1 3/0 4)", 2, "6 4 0");
+        marks("(1/2 2/1 3/0 4)", 3, "0 1 3");
         marks("{0:{1:{2:(1/3 2/4 3)}}}", 2, "0 1 3 7 15");
         CrossedSheets x = Check.on("[0!1:1]{2:[3!4:1]}");
         x.ink(1, 1);

@@ -33,7 +33,8 @@ final class EdgesOfOrdersTest {
         DOC.says("Terms 2", "SESSIONS of an ORDER: runs of MARKS of one INK, each as long as it goes",
             EdgesOfOrdersTest::runsOfOneInk);
         DOC.says("Terms 2", "the least of all ORDERS (0 without MARKS)", EdgesOfOrdersTest::fewestSessions);
-        DOC.says("Promise 16", "MARK j of the first ORDER with the FEWEST SESSIONS", EdgesOfOrdersTest::firstOfTheFewest);
+        DOC.says("Promise 16", "MARK j of the first ORDER with the FEWEST SESSIONS",
+            EdgesOfOrdersTest::firstOfTheFewest);
         DOC.says("Promise 16", "NONE: there is none such (j below 0, too)", EdgesOfOrdersTest::noSuchPlaceInASession);
         DOC.end();
     }
@@ -294,6 +295,10 @@ final class EdgesOfOrdersTest {
         DOC.due("1, 0 2", Check.session(y), "102");
         y.ink(2, 2);
         DOC.due("1 2, 0", Check.session(y), "120");
+        CrossedSheets z = Check.on("(1/0 2)(1/1 2)");
+        z.ink(0, 1);
+        z.bar(2, 1, true);
+        DOC.due("the first, whatever it breaks", Check.session(z), "01");
     }
 
     private static void noSuchPlaceInASession() {

@@ -17,7 +17,8 @@ final class EdgesOfTellingTest {
     public static void main(String[] args) {
         DOC.says("Promise 2", "The lowest n bytes (1 .. 8) of a long, the highest of these first",
             EdgesOfTellingTest::oneToEightBytes);
-        DOC.says("Promise 2", "come behind THE TEXT that is told: how many it has", EdgesOfTellingTest::bytesComeBehind);
+        DOC.says("Promise 2", "come behind THE TEXT that is told: how many it has",
+            EdgesOfTellingTest::bytesComeBehind);
         DOC.says("Promise 2", "OUTSIDE, FULL (400)", EdgesOfTellingTest::fourHundredBytes);
         DOC.says("Terms 1", "THE SHEET is told in a text (400 bytes at most)", EdgesOfTellingTest::longestText);
         DOC.says("Terms 1", "WORDS are 0 to 99", EdgesOfTellingTest::leastAndGreatestWord);
@@ -27,7 +28,8 @@ final class EdgesOfTellingTest {
         DOC.says("Terms 1", "'<' M ':' item {item} '>' | '*' M", EdgesOfTellingTest::signsOfMoved);
         DOC.says("Terms 1", "'(' W '/' M W {'/' M W} ')'", EdgesOfTellingTest::signsOfWrittenOver);
         DOC.says("Terms 1", "MARKS are 0 to 9, each told once ('*' M besides)", EdgesOfTellingTest::eachMarkOnce);
-        DOC.says("Terms 1", "There are as many as the greatest and one", EdgesOfTellingTest::asManyAsTheGreatestAndOne);
+        DOC.says("Terms 1", "There are as many as the greatest and one",
+            EdgesOfTellingTest::asManyAsTheGreatestAndOne);
         DOC.says("Terms 1", "NUMBERS have one or two figures", EdgesOfTellingTest::oneOrTwoFigures);
         DOC.says("Terms 1", "blanks (32) may stand anywhere but within NUMBERS", EdgesOfTellingTest::blanks);
         DOC.says("Terms 1", "two NUMBERS side by side need one", EdgesOfTellingTest::numbersSideBySide);
@@ -53,13 +55,15 @@ final class EdgesOfTellingTest {
             EdgesOfTellingTest::printed);
         DOC.says("Promise 3", "What is told (nothing then, with a FAULT, too) becomes THE SHEET",
             EdgesOfTellingTest::nothingIsToldThen);
+        DOC.says("Promise 3", "becomes THE SHEET", EdgesOfTellingTest::nothingOfEarlierSheets);
         DOC.says("Promise 3", "(COPIES and what is BARRED stay)", EdgesOfTellingTest::copiesAndBarredStay);
         DOC.says("Promise 3", "how many MARKS", EdgesOfTellingTest::anEmptySheetAgain);
         DOC.says("Promise 3", "-10 less the number of its FAULT", EdgesOfTellingTest::numbersOfFaults);
         DOC.says("Promise 3", "(all else is as it was)", EdgesOfTellingTest::faultyChangesNothing);
         DOC.says("Promise 4", "The place (from 0 on) of the byte that has the FAULT of the latest sheet(); NONE",
             EdgesOfTellingTest::placeOfTheFault);
-        DOC.says("Promise 5", "Byte i of THE SHEET as PRINTED; i = NONE: how many it has", EdgesOfTellingTest::printedBytes);
+        DOC.says("Promise 5", "Byte i of THE SHEET as PRINTED; i = NONE: how many it has",
+            EdgesOfTellingTest::printedBytes);
         DOC.says("Promise 5", "NONE: not so many (i below NONE, too)", EdgesOfTellingTest::printedNotSoMany);
         DOC.end();
     }
@@ -544,6 +548,39 @@ final class EdgesOfTellingTest {
         DOC.due("nothing of it is left", Check.fault(x, "2}"), "1@1");
         DOC.due("a new text", Check.fault(x, "3"), RIGHT);
         DOC.due("is the sheet", Check.printed(x), "3");
+    }
+
+    /** A sheet told behind two others answers as it does on a new object. */
+    private static void nothingOfEarlierSheets() {
+        String[] sheets = {"{0:1[1!2:2 3]}<3:4>*3(5/4 6/5 7)8 9", "1", "", "[0:1]{1:2}(3/2 4)", "{0:1{1:2{2:3}}}*3<3:4>",
+            "}", "(1/0 2)(3/1 4)", "2 3", "[1!0:5]", "{0:1}{1:*2}<2:6>", "(1/1 2/0 3)", "1(2/0 3)", "{1:1}{0:2}"};
+        for (String first : sheets) {
+            for (String second : sheets) {
+                CrossedSheets x = new CrossedSheets();
+                Check.fault(x, first);
+                Check.text(x, 0);
+                Check.fault(x, second);
+                Check.text(x, 0);
+                for (String told : new String[] {"1 2", "[0:1 2]{1:3}(4/2 5)", "(1/1 2){0:3}"}) {
+                    likeANewOne(x, told);
+                }
+            }
+        }
+    }
+
+    private static void likeANewOne(CrossedSheets x, String told) {
+        CrossedSheets y = Check.on(told);
+        DOC.due("the fault of '" + told + "'", Check.fault(x, told), RIGHT);
+        DOC.due("print of '" + told + "'", Check.printed(x), Check.printed(y));
+        for (int what = 0; what < 6; what++) {
+            DOC.due("marks of '" + told + "'", Check.marks(x, what), Check.marks(y, what));
+        }
+        DOC.due("words of '" + told + "'", x.count(1), y.count(1));
+        DOC.due("good sets of '" + told + "'", x.good(NONE), y.good(NONE));
+        DOC.due("views of '" + told + "'", x.view(NONE), y.view(NONE));
+        int full = (1 << y.count(0)) - 1;
+        DOC.due("first text of '" + told + "'", Check.text(x, 0), Check.text(y, 0));
+        DOC.due("last text of '" + told + "'", Check.text(x, full), Check.text(y, full));
     }
 
     private static void copiesAndBarredStay() {

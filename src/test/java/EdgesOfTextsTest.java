@@ -14,29 +14,35 @@ final class EdgesOfTextsTest {
         DOC.says("Terms 2", "what was put in by M stands only if M is in the SET", EdgesOfTextsTest::putIn);
         DOC.says("Terms 2", "does not stand if M is in it and the M behind its '!' is not (or there is none)",
             EdgesOfTextsTest::struckOut);
-        DOC.says("Terms 2", "what M moves stands at its '*' if M is in it, else where it is told", EdgesOfTextsTest::moved);
+        DOC.says("Terms 2", "what M moves stands at its '*' if M is in it, else where it is told",
+            EdgesOfTextsTest::moved);
         DOC.says("Terms 2", "whose MARK is the last of its row that is in it, the first one if none is",
             EdgesOfTextsTest::writtenOver);
-        DOC.says("Promise 17", "WORD i of the TEXT of a SET; i = NONE: how many it has", EdgesOfTextsTest::emptyAndFullTexts);
+        DOC.says("Promise 17", "WORD i of the TEXT of a SET; i = NONE: how many it has",
+            EdgesOfTextsTest::emptyAndFullTexts);
         DOC.says("Promise 17", "NONE: not so many (i below NONE, too)", EdgesOfTextsTest::textNotSoMany);
         DOC.says("Promise 17", "UNKNOWN (bits), NOT: it is not GOOD", EdgesOfTextsTest::textRefused);
         DOC.says("Terms 2", "all unlike TEXTS of GOOD SETS, in the order of the least SET of each",
             EdgesOfTextsTest::unlikeTexts);
-        DOC.says("Promise 18", "VIEWS: i = NONE how many, else the least SET of the i-th", EdgesOfTextsTest::fewestAndMostViews);
+        DOC.says("Promise 18", "VIEWS: i = NONE how many, else the least SET of the i-th",
+            EdgesOfTextsTest::fewestAndMostViews);
         DOC.says("Promise 18", "NONE (i below NONE, too)", EdgesOfTextsTest::viewNotSoMany);
         DOC.says("Terms 4", "A WORD STANDS in a SET, if it is in its TEXT", EdgesOfTextsTest::standsOnceOrMore);
-        DOC.says("Promise 19", "what = 0 whether it STANDS at first (1, 0), 1 in the end", EdgesOfTextsTest::atFirstAndInTheEnd);
+        DOC.says("Promise 19", "what = 0 whether it STANDS at first (1, 0), 1 in the end",
+            EdgesOfTextsTest::atFirstAndInTheEnd);
         DOC.says("Promise 19", "2 the fewest MARKS of a GOOD SET in which it STANDS (NONE), 3 the most (NONE), "
             + "4 in how many GOOD SETS", EdgesOfTextsTest::fewestAndMostMarks);
         DOC.says("Promise 19", "OUTSIDE", EdgesOfTextsTest::wordOutside);
         DOC.says("Terms 4", "IDLE is a MARK by which, whatever GOOD SET without it it may come behind, TEXT stays alike",
             EdgesOfTextsTest::whateverGoodSet);
         DOC.says("Promise 20", "IDLE MARKS: the SET", EdgesOfTextsTest::noneAndAllAreIdle);
-        DOC.says("Terms 4", "the least number of WORDS put in, left out, changed", EdgesOfTextsTest::leastNumberOfChanges);
+        DOC.says("Terms 4", "the least number of WORDS put in, left out, changed",
+            EdgesOfTextsTest::leastNumberOfChanges);
         DOC.says("Promise 21", "APART two TEXTS of SETS", EdgesOfTextsTest::nearestAndFarthest);
         DOC.says("Promise 21", "UNKNOWN (bits), NOT: one is not GOOD", EdgesOfTextsTest::apartRefused);
         DOC.says("Terms 4", "TEXT of all MARKS but it and all that must be behind it", EdgesOfTextsTest::withoutOne);
-        DOC.says("Promise 22", "WORD i of THE SHEET WITHOUT a MARK; i = NONE: how many", EdgesOfTextsTest::withoutTheOnlyOne);
+        DOC.says("Promise 22", "WORD i of THE SHEET WITHOUT a MARK; i = NONE: how many",
+            EdgesOfTextsTest::withoutTheOnlyOne);
         DOC.says("Promise 22", "NONE: not so many (i below NONE, too)", EdgesOfTextsTest::withoutNotSoMany);
         DOC.says("Promise 22", "UNKNOWN", EdgesOfTextsTest::withoutUnknown);
         DOC.end();
@@ -293,6 +299,13 @@ final class EdgesOfTextsTest {
         DOC.due("two side by side change places", Check.on("<0:1>2*0").apart(0, 1), 2);
         DOC.due("alike", Check.on("<0:1>1*0").apart(0, 1), 0);
         DOC.due("put in and changed", Check.on("{0:1}(2/1 3)").apart(0, 3), 2);
+        DOC.due("kitten and sitting", Check.on("(1/0 6)2 3 3(4/1 2)5{2:7}").apart(0, 7), 3);
+        DOC.due("the last word put in ahead", Check.on("{0:3}1 2 3").apart(0, 1), 1);
+        DOC.due("the last word put in ahead", Check.on("{0:3}1 2 3").apart(1, 0), 1);
+        DOC.due("all words put in once more ahead", Check.on("{0:1 2 3}1 2 3").apart(0, 1), 3);
+        DOC.due("the first word comes behind all", Check.on("<0:1>2 3 1 2 3*0").apart(0, 1), 2);
+        DOC.due("a word that is in both, but not at its place", Check.on("[0:1 2 3 4]5{1:6 7 8 9}").apart(0, 3), 5);
+        DOC.due("2 1 against 1 3 2", Check.on("<0:1>{1:3}2*0").apart(1, 2), 3);
         CrossedSheets x = Check.on("[0:1 2 3]{1:4 5}");
         DOC.due("three against two others", x.apart(0, 3), 3);
         DOC.due("and back", x.apart(3, 0), 3);
@@ -305,7 +318,8 @@ final class EdgesOfTextsTest {
         DOC.due("none and 40 words", x.apart(1, 0), 40);
         DOC.due("40 words and the same", x.apart(0, 0), 0);
         DOC.due("none and none", x.apart(1, 1), 0);
-        CrossedSheets y = Check.on("[0:" + forty().substring(0, 50) + "]{1:50 51 52 53 54 55 56 57 58 59 60 61 62 63 64 65 66 67 68 69}");
+        String others = "50 51 52 53 54 55 56 57 58 59 60 61 62 63 64 65 66 67 68 69";
+        CrossedSheets y = Check.on("[0:" + forty().substring(0, 50) + "]{1:" + others + "}");
         DOC.due("20 words and 20 others", y.apart(0, 3), 20);
         DOC.due("40 words and the last 20", y.apart(2, 3), 20);
         DOC.due("40 words and the first 20", y.apart(2, 0), 20);

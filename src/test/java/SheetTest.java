@@ -300,11 +300,7 @@ final class SheetTest {
     }
 
     private static void marks(CrossedSheets x, int what, String want) {
-        StringBuilder s = new StringBuilder();
-        for (int m = 0; m < x.count(0); m++) {
-            s.append(m == 0 ? "" : " ").append(x.mark(m, what));
-        }
-        CHECK.due("mark(all, " + what + ") of " + Check.printed(x), s.toString(), want);
+        CHECK.due("mark(all, " + what + ") of " + Check.printed(x), Check.marks(x, what), want);
     }
 
     private static void markKinds() {
