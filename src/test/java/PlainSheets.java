@@ -6,9 +6,9 @@ import java.util.TreeMap;
 
 /**
  * The same promises, written from the document once more in the slowest and plainest way: a tree of items, all orders
- * one by one, all rows of times one by one. Only for sheets with few marks.
+ * one by one, all rows of times one by one. Only for sheets with few marks; WideSheets is for many.
  */
-final class PlainSheets {
+class PlainSheets {
     static final int NONE = -1, UNKNOWN = -1001, OUTSIDE = -1002, NOT = -1003, FULL = -1004;
 
     private static final class Fault extends RuntimeException {
@@ -350,6 +350,15 @@ final class PlainSheets {
         return faultAt;
     }
 
+    static int faultOf(String text) {
+        try {
+            new Descent(text).read();
+        } catch (Fault f) {
+            return f.at;
+        }
+        return NONE;
+    }
+
     int print(int i) {
         return i == NONE ? tree.printed.length() : i < 0 || i >= tree.printed.length() ? NONE : tree.printed.charAt(i);
     }
@@ -359,7 +368,7 @@ final class PlainSheets {
     }
 
     /** Whether m must be behind n, by going through all steps again and again. */
-    private boolean[][] must() {
+    boolean[][] must() {
         boolean[][] must = new boolean[tree.marks][tree.marks];
         for (int round = 0; round <= tree.marks; round++) {
             for (int m = 0; m < tree.marks; m++) {
@@ -438,6 +447,14 @@ final class PlainSheets {
         return was ? 1 : 0;
     }
 
+    final int marks() {
+        return tree.marks;
+    }
+
+    final int inkOf(int m) {
+        return inks[m];
+    }
+
     int count(int what) {
         switch (what) {
             case 0: return tree.marks;
@@ -458,7 +475,7 @@ final class PlainSheets {
         }
     }
 
-    private boolean isGood(int set) {
+    boolean isGood(int set) {
         boolean[][] must = must();
         for (int m = 0; m < tree.marks; m++) {
             for (int n = 0; n < tree.marks; n++) {
@@ -470,7 +487,7 @@ final class PlainSheets {
         return true;
     }
 
-    private List<Integer> goods() {
+    List<Integer> goods() {
         List<Integer> list = new ArrayList<>();
         for (int set = 0; set < 1 << tree.marks; set++) {
             if (isGood(set)) {
@@ -573,7 +590,7 @@ final class PlainSheets {
         return n;
     }
 
-    private int fewest() {
+    int fewest() {
         int best = 99;
         for (List<Integer> o : allOrders()) {
             best = Math.min(best, sessionsOf(o));
@@ -594,7 +611,7 @@ final class PlainSheets {
         return NONE;
     }
 
-    private List<Integer> textOf(int set) {
+    List<Integer> textOf(int set) {
         List<Integer> out = new ArrayList<>();
         spell(tree.items, set, out);
         return out;
@@ -742,7 +759,7 @@ final class PlainSheets {
         return copies.isEmpty() ? NONE : copies.remove(copies.size() - 1).size();
     }
 
-    private List<Integer> timesOf(int c) {
+    List<Integer> timesOf(int c) {
         List<Integer> list = new ArrayList<>();
         for (int set : goods()) {
             if (textOf(set).equals(copies.get(c))) {
@@ -832,7 +849,7 @@ final class PlainSheets {
         return was ? 1 : 0;
     }
 
-    private int breaksOf(int set) {
+    int breaksOf(int set) {
         List<Integer> text = textOf(set);
         int n = 0;
         for (int i = 0; i + 1 < text.size(); i++) {

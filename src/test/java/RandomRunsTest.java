@@ -1,6 +1,6 @@
 import java.util.Random;
 
-/** Runs of calls on a new object, each held against the plain model. */
+/** Runs of calls on a new object, as many as the document allows, each held against a plain model. */
 final class RandomRunsTest {
     private static final int NONE = CrossedSheets.NONE;
     private static final int MOST_CALLS = 512;
@@ -11,11 +11,12 @@ final class RandomRunsTest {
     private final int mostMarks;
     private final String seed;
     private final CrossedSheets x = new CrossedSheets();
-    private final PlainSheets y = new PlainSheets();
+    private final PlainSheets y;
     private int calls;
 
-    private RandomRunsTest(Check check, long seed, int mostMarks) {
+    private RandomRunsTest(Check check, PlainSheets model, long seed, int mostMarks) {
         this.check = check;
+        this.y = model;
         this.random = new Random(seed);
         this.sheets = new RandomSheets(random);
         this.mostMarks = mostMarks;
@@ -26,10 +27,13 @@ final class RandomRunsTest {
         int factor = args.length > 0 ? Integer.parseInt(args[0]) : 1;
         Check check = new Check("RandomRuns");
         for (int k = 0; k < 300 * factor; k++) {
-            new RandomRunsTest(check, k, k % 6).run();
+            new RandomRunsTest(check, new PlainSheets(), k, k % 6).run();
         }
-        for (int k = 0; k < 2000 * factor; k++) {
-            new RandomRunsTest(check, 1000000 + k, k % 11).readOnly();
+        for (int k = 0; k < 300 * factor; k++) {
+            new RandomRunsTest(check, new WideSheets(), 1000000 + k, k % 11).run();
+        }
+        for (int k = 0; k < 4000 * factor; k++) {
+            new RandomRunsTest(check, new WideSheets(), 2000000 + k, k % 11).readOnly();
         }
         check.end();
     }
@@ -39,44 +43,53 @@ final class RandomRunsTest {
         check.due(seed + ", call " + calls + ", " + call, got, want);
     }
 
-    /** Faults and print alone, on sheets with up to ten marks. */
+    /** What is read from a text alone, on sheets with up to ten marks. */
     private void readOnly() {
-        for (int k = 0; k < 5; k++) {
-            tell(mostMarks, random.nextInt(4) > 0, 4 * random.nextInt(12));
-            int size = y.print(NONE);
-            due("print(-1)", x.print(NONE), size);
-            for (int i = 0; i < size; i++) {
-                due("print(" + i + ")", x.print(i), y.print(i));
-            }
-            for (int m = 0; m < y.count(0); m++) {
-                for (int what = 0; what < 6; what++) {
-                    due("mark(" + m + ", " + what + ")", x.mark(m, what), y.mark(m, what));
-                }
-            }
-            int full = (1 << y.count(0)) - 1;
-            sameText(0);
-            sameText(full);
-            for (int n = 0; n < 5; n++) {
-                sameText(random.nextInt(full + 1));
+        String text = sheets.make(mostMarks, 4 * random.nextInt(12));
+        tell(random.nextInt(4) > 0 ? sheets.spoil(text) : text);
+        if (random.nextBoolean()) {
+            samePrint();
+        }
+        sameMarks();
+        int full = (1 << y.count(0)) - 1;
+        sameText(0);
+        sameText(full);
+        while (calls < MOST_CALLS) {
+            sameText(random.nextInt(full + 1));
+        }
+    }
+
+    private void samePrint() {
+        int size = y.print(NONE);
+        due("print(-1)", x.print(NONE), size);
+        for (int i = 0; i < size && calls < MOST_CALLS; i++) {
+            due("print(" + i + ")", x.print(i), y.print(i));
+        }
+    }
+
+    private void sameMarks() {
+        for (int m = 0; m < y.count(0); m++) {
+            for (int what = 0; what < 6 && calls < MOST_CALLS; what++) {
+                due("mark(" + m + ", " + what + ")", x.mark(m, what), y.mark(m, what));
             }
         }
     }
 
     private void sameText(int set) {
         int size = y.text(set, NONE);
-        due("text(" + set + ", -1)", x.text(set, NONE), size);
-        for (int i = 0; i < size; i++) {
+        for (int i = NONE; i < size && calls < MOST_CALLS; i++) {
             due("text(" + set + ", " + i + ")", x.text(set, i), y.text(set, i));
         }
     }
 
     private void run() {
-        tell(mostMarks, false, 3);
-        while (calls < MOST_CALLS - 60) {
+        tell(withoutFault(mostMarks, 3));
+        while (calls < MOST_CALLS) {
             int way = random.nextInt(40);
-            if (way == 0) {
-                tell(random.nextInt(mostMarks + 1), random.nextInt(3) == 0, 6);
-            } else if (way < 6) {
+            if (way == 0 && calls < MOST_CALLS / 2) {
+                String text = withoutFault(random.nextInt(mostMarks + 1), 6);
+                tell(random.nextInt(3) == 0 ? sheets.spoil(text) : text);
+            } else if (way > 0 && way < 6 && calls < MOST_CALLS - 20) {
                 copyOne();
             } else {
                 one(random.nextInt(34));
@@ -84,11 +97,16 @@ final class RandomRunsTest {
         }
     }
 
-    private void tell(int number, boolean spoilt, int mostWords) {
+    /** Ten marks often take more words than there may be: then another sheet is made. */
+    private String withoutFault(int number, int mostWords) {
         String text = sheets.make(number, mostWords);
-        if (spoilt) {
-            text = sheets.spoil(text);
+        for (int k = 0; k < 100 && PlainSheets.faultOf(text) != NONE; k++) {
+            text = sheets.make(number, mostWords);
         }
+        return text;
+    }
+
+    private void tell(String text) {
         int at = 0;
         while (at < text.length()) {
             int n = Math.min(text.length() - at, 1 + random.nextInt(8));

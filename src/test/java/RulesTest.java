@@ -1,6 +1,7 @@
 import java.io.IOException;
 import java.lang.management.ManagementFactory;
 import java.lang.reflect.Array;
+import java.lang.reflect.Constructor;
 import java.lang.reflect.Field;
 import java.lang.reflect.InaccessibleObjectException;
 import java.lang.reflect.Method;
@@ -19,41 +20,129 @@ import java.util.regex.Pattern;
 final class RulesTest {
     private static final Check CHECK = new Check("Rules");
     private static final int MOST_ELEMENTS = 17000;
-    private static final String FACE = "ahead apart bar breaks clean copy count drop earlier fault feed good holds idle ink "
-        + "least mark nearest next order orders place print see session sheet text times view when without word write";
+    private static final int MOST_CLASSES = 12, MOST_FIELDS = 20, MOST_PARAMETERS = 7, MOST_LINES = 60;
 
     private static int elements;
 
     public static void main(String[] args) throws IOException, ReflectiveOperationException {
         face();
+        classesInside();
+        methodsAreShort();
         words();
         room();
         callsMakeNothing();
         CHECK.end();
     }
 
-    private static void face() {
+    /** The face is that of the document, member for member: what is not private, and its types. */
+    private static void face() throws IOException {
+        String doc = Files.readString(Path.of("../shared/DOC.md"), StandardCharsets.UTF_8);
+        String block = doc.substring(doc.indexOf("```java"), doc.indexOf("```\n", doc.indexOf("```java") + 7));
+        Set<String> asked = new TreeSet<>();
+        Matcher method = Pattern.compile("public (int|long) (\\w+)\\(([^)]*)\\);").matcher(block);
+        while (method.find()) {
+            asked.add(method.group(1) + " " + method.group(2) + "(" + typesOf(method.group(3)) + ")");
+        }
+        Matcher constant = Pattern.compile("\\b([A-Z]+) = (-?\\d+)").matcher(block);
+        while (constant.find()) {
+            asked.add("public static final int " + constant.group(1) + " = " + constant.group(2));
+        }
+        Matcher constructor = Pattern.compile("public CrossedSheets\\(\\)").matcher(block);
+        while (constructor.find()) {
+            asked.add(constructor.group());
+        }
+        CHECK.due("members that the document has", asked.size(), 33 + 5 + 1);
+        CHECK.due("the face", String.join("; ", visible()), String.join("; ", asked));
+        CHECK.due("the class", Modifier.toString(CrossedSheets.class.getModifiers()), "public final");
+        CHECK.due("what it extends", CrossedSheets.class.getSuperclass().getSimpleName(), "Object");
+        CHECK.due("what it implements", CrossedSheets.class.getInterfaces().length, 0);
+    }
+
+    private static String typesOf(String parameters) {
+        return parameters.replaceAll("(\\w+) \\w+", "$1").replace(" ", "");
+    }
+
+    private static Set<String> visible() {
         Set<String> found = new TreeSet<>();
         for (Method method : CrossedSheets.class.getDeclaredMethods()) {
-            if (!Modifier.isPrivate(method.getModifiers())) {
-                found.add(method.getName());
+            String types = parameters(method);
+            if (method.getModifiers() == Modifier.PUBLIC) {
+                found.add(method.getReturnType() + " " + method.getName() + "(" + types + ")");
+            } else if (!Modifier.isPrivate(method.getModifiers())) {
+                found.add(method.toString());
             }
         }
-        CHECK.due("the public methods", String.join(" ", found), FACE);
-        CHECK.due("how many", found.size(), 33);
-        for (Class<?> inside : CrossedSheets.class.getDeclaredClasses()) {
-            CHECK.due(inside + " is static", Modifier.isStatic(inside.getModifiers()) ? 1 : 0, 1);
-            for (Method method : inside.getDeclaredMethods()) {
-                CHECK.due("the name " + method.getName() + " is free", found.contains(method.getName()) ? 1 : 0, 0);
-            }
-        }
-        CHECK.due("classes", CrossedSheets.class.getDeclaredClasses().length <= 12 ? 1 : 0, 1);
-        int visible = 0;
         for (Field field : CrossedSheets.class.getDeclaredFields()) {
-            visible += Modifier.isPrivate(field.getModifiers()) ? 0 : 1;
+            if (!Modifier.isPrivate(field.getModifiers())) {
+                found.add(Modifier.toString(field.getModifiers()) + " " + field.getType() + " " + field.getName() + " = "
+                    + valueOf(field));
+            }
         }
-        CHECK.due("visible constants", visible, 5);
-        CHECK.due("constructors", CrossedSheets.class.getConstructors().length, 1);
+        for (Constructor<?> constructor : CrossedSheets.class.getDeclaredConstructors()) {
+            found.add(constructor.toString());
+        }
+        return found;
+    }
+
+    private static String parameters(Method method) {
+        StringBuilder s = new StringBuilder();
+        for (Class<?> type : method.getParameterTypes()) {
+            s.append(s.length() == 0 ? "" : ",").append(type);
+        }
+        return s.toString();
+    }
+
+    private static String valueOf(Field field) {
+        try {
+            return String.valueOf(field.get(null));
+        } catch (IllegalAccessException e) {
+            return "hidden";
+        }
+    }
+
+    private static void classesInside() {
+        Class<?>[] inside = CrossedSheets.class.getDeclaredClasses();
+        CHECK.due("classes in the file", inside.length + 1 <= MOST_CLASSES ? 0 : inside.length + 1, 0);
+        Set<String> names = new TreeSet<>();
+        for (Method method : CrossedSheets.class.getMethods()) {
+            names.add(method.getName());
+        }
+        for (Class<?> one : inside) {
+            boolean isHidden = (one.getModifiers() & (Modifier.PUBLIC | Modifier.PROTECTED)) == 0;
+            CHECK.due(one + " is static and not public", isHidden && Modifier.isStatic(one.getModifiers()) ? 1 : 0, 1);
+            parts(one, names);
+        }
+        parts(CrossedSheets.class, names);
+    }
+
+    private static void parts(Class<?> one, Set<String> names) {
+        int fields = 0;
+        for (Field field : one.getDeclaredFields()) {
+            boolean isStatic = Modifier.isStatic(field.getModifiers());
+            fields += isStatic ? 0 : 1;
+            CHECK.due(field + " is final, if static", isStatic && !Modifier.isFinal(field.getModifiers()) ? 1 : 0, 0);
+        }
+        CHECK.due("fields of " + one, fields <= MOST_FIELDS ? 0 : fields, 0);
+        for (Method method : one.getDeclaredMethods()) {
+            boolean isFree = method.getModifiers() == Modifier.PUBLIC || !names.contains(method.getName());
+            CHECK.due("the name of " + method + " is free", isFree ? 1 : 0, 1);
+            CHECK.due("parameters of " + method, method.getParameterCount() <= MOST_PARAMETERS ? 1 : 0, 1);
+        }
+    }
+
+    private static void methodsAreShort() throws IOException {
+        String name = "";
+        int lines = 0;
+        for (String line : Files.readAllLines(Path.of("src/main/java/CrossedSheets.java"), StandardCharsets.ISO_8859_1)) {
+            lines++;
+            if (line.matches(" {4}( {4})?\\w[^=;]*\\) \\{")) {
+                name = line.trim();
+                lines = 1;
+            } else if (line.matches(" {4}( {4})?}") && !name.isEmpty()) {
+                CHECK.due("lines of " + name, lines <= MOST_LINES ? 0 : lines, 0);
+                name = "";
+            }
+        }
     }
 
     private static void words() throws IOException {
